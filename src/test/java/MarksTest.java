@@ -6,6 +6,8 @@ final class MarksTest extends Checks {
         readToMovesTheMarkBothWays();
         joiningStartsAtTheEnd();
         removedMessagesAreNotUnread();
+        removingLeavesTheMarks();
+        eachReplayStartsAfresh();
         roomsAreApart();
         editingLeavesTheMarks();
         refusals();
@@ -112,6 +114,35 @@ final class MarksTest extends Checks {
         x.remove(0, 2);
         bothUnread(x, 1, 0, 0);
         due(0, () -> x.read(1, 0));
+    }
+
+    private static void removingLeavesTheMarks() {
+        Inglenook x = roomOf(2);
+        say(x, 1, 0, "a");
+        say(x, 1, 0, "b");
+        say(x, 1, 0, "c");
+        x.remove(0, 2);
+        bothUnread(x, 0, 0, 2);
+        x.read(0, 0);
+        say(x, 1, 0, "d");
+        x.remove(0, 0);
+        bothUnread(x, 0, 0, 1);
+    }
+
+    private static void eachReplayStartsAfresh() {
+        Inglenook x = roomOf(2);
+        x.open(0);
+        x.join(1, 1);
+        say(x, 0, 0, "a");
+        say(x, 0, 1, "b");
+        x.remove(0, 0);
+        bothUnread(x, 1, 0, 0);
+        bothUnread(x, 1, 1, 1);
+        bothUnread(x, 1, 0, 0);
+        x.leave(1, 0);
+        refuses(NOT_ALLOWED, () -> x.unreadByLog(1, 0));
+        bothUnread(x, 1, 1, 1);
+        bothUnread(x, 0, 1, 0);
     }
 
     private static void roomsAreApart() {

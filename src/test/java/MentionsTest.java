@@ -10,6 +10,8 @@ final class MentionsTest extends Checks {
         repliesMentionToo();
         unreadMentionsGoByMarks();
         unreadMentionsStayInTheirRoom();
+        editingTheFirstMessageCounts();
+        eachReplayStartsAfresh();
         wrongNumbersAreRefused();
         end();
     }
@@ -174,6 +176,45 @@ final class MentionsTest extends Checks {
         refuses(NOT_ALLOWED, () -> x.unreadMentions(2, 1));
         refuses(NOT_ALLOWED, () -> x.mentionsByLog(2, 1));
         due(false, () -> x.mentions(0, 2));
+    }
+
+    private static void editingTheFirstMessageCounts() {
+        Inglenook x = roomOf(2);
+        say(x, 0, 0, "nobody");
+        say(x, 0, 0, "nobody");
+        bothMentions(x, 1, 0, 0);
+        edit(x, 0, 0, "@b");
+        bothMentions(x, 1, 0, 1);
+        edit(x, 0, 0, "b@");
+        bothMentions(x, 1, 0, 0);
+    }
+
+    /** The user 0 joins room 1 only after it was called there: no replay may know it as a member before. */
+    private static void eachReplayStartsAfresh() {
+        Inglenook x = roomOf(3);
+        x.open(1);
+        x.join(2, 1);
+        say(x, 1, 0, "@a@c");
+        say(x, 1, 1, "first");
+        say(x, 1, 1, "@a@c");
+        due("ac", () -> mentioned(x, 0));
+        due("c", () -> mentioned(x, 2));
+        x.join(0, 1);
+        x.readTo(0, 1);
+        due(1, () -> x.unread(0, 1));
+        bothMentions(x, 0, 0, 1);
+        bothMentions(x, 0, 1, 0);
+        bothMentions(x, 2, 1, 1);
+        bothMentions(x, 0, 1, 0);
+        say(x, 2, 1, "@a");
+        bothMentions(x, 0, 1, 1);
+        x.leave(0, 1);
+        edit(x, 2, 3, "@a@b");
+        x.join(0, 1);
+        x.readTo(0, 1);
+        bothMentions(x, 0, 1, 0);
+        bothMentions(x, 1, 1, 1);
+        bothMentions(x, 0, 0, 1);
     }
 
     private static void wrongNumbersAreRefused() {
