@@ -41,11 +41,15 @@ abstract class Checks {
 
     private static String place() {
         for (StackTraceElement at : new Throwable().getStackTrace()) {
-            if (!at.getClassName().equals("Checks")) {
+            if (at.getClassName().endsWith("Test")) {
                 return at.getFileName() + ":" + at.getLineNumber() + " " + at.getMethodName();
             }
         }
         return "?";
+    }
+
+    static int checksMade() {
+        return checks;
     }
 
     static void end() {

@@ -216,11 +216,12 @@ final class UsersAndTimeTest extends Checks {
             due(Float.floatToIntBits(3 - count), () -> x.tokenBits(0));
         }
         due(0, () -> x.tokenBits(0));
-        for (int seconds = 1; seconds <= 256; seconds++) {
-            x.pass(1);
+        for (int seconds = 3; seconds <= 255; seconds += 3) {
+            x.pass(3);
             float tokens = seconds / 64.0f;
             due(Float.floatToIntBits(tokens), () -> x.tokenBits(0));
         }
+        x.pass(1);
         due(4.0f, () -> x.tokens(0));
     }
 
