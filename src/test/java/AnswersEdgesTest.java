@@ -560,6 +560,37 @@ final class AnswersEdgesTest extends Edges {
         x.leave(1, 0);
         x.join(1, 0);
         due(0, () -> ofUser.on(x, 1));
+        due(2, () -> ofUser.on(x, 0));
+        firstAndOtherRoomsCount(ofUser, ofRoom);
+    }
+
+    /** The first message is edited, read and removed; between the questions another room is asked about. */
+    private static void firstAndOtherRoomsCount(Numbered ofUser, Numbered ofRoom) {
+        Inglenook x = roomOf(3);
+        x.open(1);
+        x.join(0, 1);
+        for (int count = 0; count < 3; count++) {
+            say(x, 1, 0, "m");
+            say(x, 2, 0, "m");
+        }
+        say(x, 1, 1, "m");
+        x.pass(8);
+        edit(x, 1, 0, "n");
+        due(6, () -> ofUser.on(x, 0));
+        x.remove(1, 0);
+        due(5, () -> ofUser.on(x, 0));
+        due(1, () -> ofRoom.on(x, 1));
+        due(5, () -> ofRoom.on(x, 0));
+        x.readTo(0, 0);
+        due(5, () -> ofUser.on(x, 0));
+        x.read(2, 0);
+        due(5, () -> ofUser.on(x, 0));
+        x.leave(2, 0);
+        x.pass(1);
+        due(5, () -> ofUser.on(x, 0));
+        x.readTo(0, 1);
+        due(4, () -> ofUser.on(x, 0));
+        due(3, () -> ofUser.on(x, 1));
     }
 
     private static void unreadMentions() {
@@ -605,6 +636,63 @@ final class AnswersEdgesTest extends Edges {
         }
         due(4, () -> ofUser.on(x, 2));
         due(3, () -> ofUser.on(x, 0));
+        due(0, () -> ofUser.on(x, 1));
+        onlyMembersThenCount(ofUser);
+        whoCameLaterIsNotCounted(ofUser, ofRoom);
+        editsOfTheFirstCount(ofUser);
+    }
+
+    /** The users 0 and 2 were no members when they were called, and have set their marks back since. */
+    private static void onlyMembersThenCount(Numbered ofUser) {
+        Inglenook x = roomOf(3);
+        x.leave(0, 0);
+        x.leave(2, 0);
+        say(x, 1, 0, "first");
+        say(x, 1, 0, "@a@c");
+        x.join(0, 0);
+        x.join(2, 0);
+        x.readTo(0, 0);
+        x.readTo(2, 0);
+        due(0, () -> ofUser.on(x, 0));
+        due(0, () -> ofUser.on(x, 2));
+        edit(x, 1, 1, "@a@c");
+        due(1, () -> ofUser.on(x, 0));
+        due(1, () -> ofUser.on(x, 2));
+        x.leave(2, 0);
+        due(1, () -> ofUser.on(x, 0));
+        edit(x, 1, 1, "@c@a");
+        x.join(2, 0);
+        x.readTo(2, 0);
+        due(0, () -> ofUser.on(x, 2));
+        due(1, () -> ofUser.on(x, 0));
+    }
+
+    /** The user 0 is a member of another room meanwhile, and that room is asked about first. */
+    private static void whoCameLaterIsNotCounted(Numbered ofUser, Numbered ofRoom) {
+        Inglenook x = server(3);
+        x.open(1);
+        x.open(0);
+        say(x, 1, 0, "first");
+        say(x, 1, 0, "@a@c");
+        x.join(0, 0);
+        x.join(2, 0);
+        x.readTo(0, 0);
+        x.readTo(2, 0);
+        due(0, () -> ofRoom.on(x, 1));
+        due(0, () -> ofUser.on(x, 0));
+        due(0, () -> ofUser.on(x, 2));
+    }
+
+    private static void editsOfTheFirstCount(Numbered ofUser) {
+        Inglenook x = roomOf(2);
+        say(x, 0, 0, "nobody");
+        say(x, 0, 0, "@b");
+        due(1, () -> ofUser.on(x, 1));
+        edit(x, 0, 0, "@b");
+        due(2, () -> ofUser.on(x, 1));
+        edit(x, 0, 1, "nobody");
+        due(1, () -> ofUser.on(x, 1));
+        x.remove(0, 0);
         due(0, () -> ofUser.on(x, 1));
     }
 
@@ -772,6 +860,18 @@ final class AnswersEdgesTest extends Edges {
                     late.pass(600);
                 }
                 bothActivities(late, 0, 1.0 / 300001);
+                Inglenook busy = roomOf(1);
+                busy.setRefill(64);
+                for (int count = 1; count <= 4; count++) {
+                    say(busy, 0, 0, "m");
+                    bothActivities(busy, 0, count);
+                }
+                busy.pass(4);
+                bothActivities(busy, 0, 0.2 + 0.2 + 0.2 + 0.2);
+                for (int count = 1; count <= 4; count++) {
+                    say(busy, 0, 0, "m");
+                    bothActivities(busy, 0, 0.2 + 0.2 + 0.2 + 0.2 + (double) count);
+                }
             });
         edge("Promise 54", NO_SUCH_USER, () -> noSuchUser((x, user) -> x.activityBits(user)));
     }

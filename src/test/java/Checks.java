@@ -16,12 +16,14 @@ abstract class Checks {
     private static int checks = 0;
     private static int wrong = 0;
 
-    /** What a call comes to: its answer, or the exact class of what it throws. */
+    /** What a call comes to: its answer, or the exact class of what the program itself throws. */
     static Object outcome(Call call) {
         try {
             return call.answer();
         } catch (RuntimeException e) {
-            return e.getClass();
+            StackTraceElement[] trace = e.getStackTrace();
+            boolean own = trace.length > 0 && trace[0].getClassName().startsWith("Inglenook");
+            return own ? e.getClass() : "not by the program's own throw: " + e;
         }
     }
 

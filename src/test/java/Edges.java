@@ -72,9 +72,14 @@ abstract class Edges extends Checks {
         noSentenceIsLeft(headings.toArray(new String[0]));
     }
 
-    /** The call throws this, and nothing tells the server from its twin that has not been called. */
+    /** The call throws this and changes nothing. */
     static void refused(Class<? extends RuntimeException> want, Make make, Act act) {
         refuses(want, () -> act.on(make.made()));
+        changesNothing(make, act);
+    }
+
+    /** Nothing tells the server from its twin that has not been called. */
+    static void changesNothing(Make make, Act act) {
         for (List<Witness.Probe> part : new Witness(make.made()).parts()) {
             Inglenook called = make.made();
             outcome(() -> act.on(called));

@@ -467,6 +467,12 @@ final class TermsEdgesTest extends Edges {
         due("cde", () -> mentioned(x, 0));
         edit(x, 0, 0, "c@");
         due("", () -> mentioned(x, 0));
+        x.leave(0, 0);
+        write(x, 2, "@a@b@c@d@e");
+        x.say(2, 0);
+        due("bd", () -> mentioned(x, 1));
+        x.join(0, 0);
+        due("bd", () -> mentioned(x, 1));
     }
 
     private static void theAuthorIsLeftOut() {
@@ -700,7 +706,24 @@ final class TermsEdgesTest extends Edges {
         noEdge("Not promised", "How the state is held inside the object is free, as are the speed of each call, the text of"
             + " toString and the behaviour of equals and hashCode.");
         noEdge("Not promised", "Use of one object from several threads at once is not promised to be safe.");
-        noEdge("Not promised", "Nothing is promised beyond the answers and state changes described above, and nothing about an"
-            + " object after its 512th call.");
+        edge("Not promised", "Nothing is promised beyond the answers and state changes described above, and nothing about an"
+            + " object after its 512th call.", TermsEdgesTest::answersChangeNothing);
+    }
+
+    /** Each call that only answers, about the user 1, the room 0 and message 1. */
+    private static void answersChangeNothing() {
+        Act[] acts = {
+            x -> x.users(), x -> x.rooms(), x -> x.messages(), x -> x.time(), x -> x.presence(1), x -> x.tokens(1),
+            x -> x.tokenBits(1), x -> x.draftLength(1), x -> x.draftAt(1, 1), x -> x.members(0), x -> x.memberAt(0, 1),
+            x -> x.present(0), x -> x.owner(0), x -> x.countOf(0), x -> x.messageAt(0, 1), x -> x.rankOf(1),
+            x -> x.author(1), x -> x.roomOf(1), x -> x.length(1), x -> x.charAt(1, 1), x -> x.edits(1), x -> x.isRemoved(1),
+            x -> x.parent(2), x -> x.depth(1), x -> x.threadSize(1), x -> x.threadAt(1, 0), x -> x.mentions(0, 1),
+            x -> x.unread(1, 0), x -> x.unreadByLog(1, 0), x -> x.unreadMentions(1, 0), x -> x.mentionsByLog(1, 0),
+            x -> x.events(), x -> x.eventsOf('s'), x -> x.seenShare(1), x -> x.activity(1), x -> x.activityBits(1)
+        };
+        for (Act act : acts) {
+            due(false, () -> act.on(town()) instanceof Class);
+            changesNothing(Edges::town, act);
+        }
     }
 }
