@@ -103,7 +103,7 @@ public final class Inglenook {
     public int join(int user, int room) throws NoSuchElementException, IllegalStateException {
         User joiner = knownUser(user);
         Room joined = knownRoom(room);
-        if (joined.holds(joiner)) {
+        if (joined.memberFor(joiner) != null) {
             throw new IllegalStateException("the user is a member");
         }
         joined.admit(joiner);
@@ -115,8 +115,7 @@ public final class Inglenook {
     public int leave(int user, int room) throws NoSuchElementException, UnsupportedOperationException {
         User leaver = knownUser(user);
         Room left = knownRoom(room);
-        requireMember(leaver, left);
-        left.dismiss(leaver);
+        left.dismiss(requireMember(leaver, left));
         note(LEFT, user, room, NONE, 0);
         see(leaver);
         return left.members.size();
@@ -203,18 +202,16 @@ public final class Inglenook {
     }
 
     public int read(int user, int room) throws NoSuchElementException, UnsupportedOperationException {
-        User reader = knownUser(user);
         Room place = knownRoom(room);
-        requireMember(reader, place);
+        Member reader = requireMember(knownUser(user), place);
         int before = place.countUnread(reader, false);
         moveMark(reader, place, place.messages.size());
         return before;
     }
 
     public int readTo(int user, int message) throws NoSuchElementException, UnsupportedOperationException {
-        User reader = knownUser(user);
         Message last = knownMessage(message);
-        requireMember(reader, last.room);
+        Member reader = requireMember(knownUser(user), last.room);
         moveMark(reader, last.room, last.rank + 1);
         return last.room.countUnread(reader, false);
     }
@@ -264,14 +261,14 @@ public final class Inglenook {
         if (rank < 0 || rank >= place.members.size()) {
             throw new IndexOutOfBoundsException("there is no such member");
         }
-        return place.members.get(rank).number;
+        return place.members.get(rank).user.number;
     }
 
     public int present(int room) throws NoSuchElementException {
         Room place = knownRoom(room);
         int found = 0;
         for (int rank = 0; rank < place.members.size(); rank++) {
-            if (presenceOf(place.members.get(rank)) == 'a') {
+            if (presenceOf(place.members.get(rank).user) == 'a') {
                 found++;
             }
         }
@@ -283,7 +280,7 @@ public final class Inglenook {
         if (place.members.isEmpty()) {
             throw new IllegalStateException("the room has no members");
         }
-        return place.members.get(0).number;
+        return place.members.get(0).user.number;
     }
 
     public int countOf(int room) throws NoSuchElementException {
@@ -393,10 +390,10 @@ public final class Inglenook {
         int others = 0;
         int readers = 0;
         for (int rank = 0; rank < place.members.size(); rank++) {
-            User member = place.members.get(rank);
-            if (member != shown.author) {
+            Member member = place.members.get(rank);
+            if (member.user != shown.author) {
                 others++;
-                if (shown.rank < place.marks[member.number]) {
+                if (shown.rank < member.mark) {
                     readers++;
                 }
             }
@@ -436,10 +433,12 @@ public final class Inglenook {
         return allMessages.get(message);
     }
 
-    private static void requireMember(User user, Room room) {
-        if (!room.holds(user)) {
+    private static Member requireMember(User user, Room room) {
+        Member member = room.memberFor(user);
+        if (member == null) {
             throw new UnsupportedOperationException("the user is not a member of the room");
         }
+        return member;
     }
 
     private void see(User user) {
@@ -497,17 +496,15 @@ public final class Inglenook {
         return found;
     }
 
-    private void moveMark(User reader, Room place, int mark) {
-        place.marks[reader.number] = mark;
-        note(READ, reader.number, place.number, mark - 1, 0);
-        see(reader);
+    private void moveMark(Member reader, Room place, int mark) {
+        reader.mark = mark;
+        note(READ, reader.user.number, place.number, mark - 1, 0);
+        see(reader.user);
     }
 
     private int unreadInRoom(int user, int room, boolean mentionsOnly) {
-        User reader = knownUser(user);
         Room place = knownRoom(room);
-        requireMember(reader, place);
-        return place.countUnread(reader, mentionsOnly);
+        return place.countUnread(requireMember(knownUser(user), place), mentionsOnly);
     }
 
     private int unreadInLog(int user, int room, boolean mentionsOnly) {
@@ -675,52 +672,60 @@ public final class Inglenook {
         }
     }
 
+    /** A user for as long as it stays in a room: the mark goes with it. */
+    private static final class Member {
+        private final User user;
+        private int mark;
+
+        Member(User user, int mark) {
+            this.user = user;
+            this.mark = mark;
+        }
+    }
+
     private static final class Room {
         private final int number;
-        private final ArrayList<User> members;
+        private final ArrayList<Member> members;
         private final ArrayList<Message> messages;
-        private final int[] marks;
 
         Room(int number) {
             this.number = number;
             members = new ArrayList<>();
             messages = new ArrayList<>();
-            marks = new int[MAX_USERS];
         }
 
-        int memberRank(User user) {
+        /** Null if the user is not a member. */
+        Member memberFor(User user) {
             for (int rank = 0; rank < members.size(); rank++) {
-                if (members.get(rank) == user) {
-                    return rank;
+                Member member = members.get(rank);
+                if (member.user == user) {
+                    return member;
                 }
             }
-            return NONE;
-        }
-
-        boolean holds(User user) {
-            return memberRank(user) >= 0;
+            return null;
         }
 
         boolean isOwnedBy(User user) {
-            return memberRank(user) == 0;
+            return !members.isEmpty() && members.get(0).user == user;
         }
 
         void admit(User user) {
-            members.add(user);
-            marks[user.number] = messages.size();
+            members.add(new Member(user, messages.size()));
         }
 
-        void dismiss(User user) {
-            int rank = memberRank(user);
-            if (rank >= 0) {
-                members.remove(rank);
+        void dismiss(Member leaver) {
+            for (int rank = 0; rank < members.size(); rank++) {
+                if (members.get(rank) == leaver) {
+                    members.remove(rank);
+                    return;
+                }
             }
         }
 
         int memberMask() {
             int mask = 0;
             for (int rank = 0; rank < members.size(); rank++) {
-                mask |= members.get(rank).bit();
+                mask |= members.get(rank).user.bit();
             }
             return mask;
         }
@@ -735,12 +740,12 @@ public final class Inglenook {
             return found;
         }
 
-        int countUnread(User reader, boolean mentionsOnly) {
+        int countUnread(Member reader, boolean mentionsOnly) {
             int found = 0;
-            for (int rank = marks[reader.number]; rank < messages.size(); rank++) {
+            for (int rank = 0; rank < messages.size(); rank++) {
                 Message message = messages.get(rank);
-                boolean wanted = !mentionsOnly || message.isMentioning(reader);
-                if (!message.removed && message.author != reader && wanted) {
+                boolean unread = rank >= reader.mark && !message.removed && message.author != reader.user;
+                if (unread && (!mentionsOnly || message.isMentioning(reader.user))) {
                     found++;
                 }
             }
